@@ -1,0 +1,283 @@
+/** Promises 24 to 33: hums, auctions, coughs, years, images. */
+public final class HumsTest {
+    private static final int MIN = Integer.MIN_VALUE;
+    private static final int MAX = Integer.MAX_VALUE;
+    private static final Due due = new Due("HumsTest");
+
+    public static void main(String[] args) {
+        promise24Seen();
+        promise25Forget();
+        promise26Hum();
+        promise27Watch();
+        promise28Auction();
+        promise29Coughs();
+        promise30Year();
+        promise31Image();
+        promise32Restore();
+        promise33Told();
+        due.end();
+    }
+
+    private static SilenceMinute threeRide() {
+        SilenceMinute x = new SilenceMinute();
+        x.ride(0, 0, 5);
+        x.ride(1, 2, 9);
+        x.ride(2, 0, 11);
+        x.tunnel(4, true);
+        return x;
+    }
+
+    private static void promise24Seen() {
+        SilenceMinute x = new SilenceMinute();
+        for (int n = 1; n <= 8; n++) {
+            due.same("24 seen", x.seen(n == 1 ? 29 : 0, n == 1 ? 5 : 0), n);
+        }
+        due.same("24 sights", x.told(5), 8);
+        due.refused(x, "24 full", () -> x.seen(0, 0), -4);
+        due.refused(x, "24 full, seen(30, 0)", () -> x.seen(30, 0), -2);
+        due.refused(x, "24 seen(-1, 0)", () -> x.seen(-1, 0), -2);
+        due.refused(x, "24 seen(30, 6)", () -> x.seen(30, 6), -1);
+        due.refused(x, "24 seen(0, -1)", () -> x.seen(0, -1), -1);
+    }
+
+    private static void promise25Forget() {
+        SilenceMinute x = threeRide();
+        due.same("25 none", x.forget(), 0);
+        x.seen(0, 0);
+        x.seen(0, 2);
+        due.same("25 two", x.forget(), 2);
+        due.same("25 gone", x.told(5), 0);
+        due.same("25 all may be", x.hum(), 7);
+    }
+
+    private static void promise26Hum() {
+        SilenceMinute x = threeRide();
+        due.same("26 all who ride", x.hum(), 7);
+        x.ride(5, 12, 20);
+        due.same("26 behind the line", x.hum(), 7);
+        x.seen(3, 2);
+        due.same("26 with C in 3", x.hum(), 3);
+        x.seat(1, 1);
+        due.same("26 B sits elsewhere", x.hum(), 1);
+        x.seat(1, 0);
+        x.seen(8, 2);
+        due.same("26 with C in 8 too", x.hum(), 2);
+        x.seen(8, 1);
+        due.same("26 not himself", x.hum(), 0);
+        x.forget();
+        x.seen(11, 0);
+        due.same("26 a told one did not ride", x.hum(), 0);
+        x.forget();
+        x.seen(12, 5);
+        due.same("26 behind the line, told", x.hum(), 0);
+    }
+
+    private static void watched(SilenceMinute x, int where, int many) {
+        due.same("27 watch(0)", x.watch(0), where);
+        due.same("27 watch(1)", x.watch(1), many);
+    }
+
+    private static void promise27Watch() {
+        SilenceMinute x = threeRide();
+        watched(x, 0, 2);
+        x.seen(0, 0);
+        watched(x, 0, 1);
+        x.seen(0, 2);
+        watched(x, -6, -6);
+        x.forget();
+        for (int t = 0; t < 4; t++) {
+            x.ride(t, 0, 11);
+        }
+        watched(x, 0, 4);
+        x.seat(2, 2);
+        x.seat(3, 2);
+        watched(x, 0, 2);
+        x.ride(1, 7, 8);
+        x.seat(1, 2);
+        x.seat(3, 0);
+        watched(x, 0, 2);
+        x.seat(3, 1);
+        watched(x, 72, 2);
+        due.does(x, "..........", 10);
+        watched(x, 72, 2);
+        x.line(7);
+        watched(x, 0, 2);
+        x.ride(2, -1, 0);
+        x.ride(3, -1, 0);
+        x.ride(0, 6, 29);
+        watched(x, 0, 1);
+        for (int wrong : new int[] {2, -1, MIN, MAX}) {
+            due.refused(x, "27 watch(" + wrong + ")", () -> x.watch(wrong), -2);
+        }
+    }
+
+    private static void sold(int first, int second, int winner, int price) {
+        SilenceMinute x = new SilenceMinute();
+        due.same("28 auction(" + first + ", " + second + ", 0)", x.auction(first, second, 0), winner);
+        due.same("28 auction(" + first + ", " + second + ", 1)", x.auction(first, second, 1), price);
+    }
+
+    private static void promise28Auction() {
+        sold(0, 0, -6, -6);
+        sold(1, 0, -6, -6);
+        sold(2, 0, 0, 1);
+        sold(2, 1, 0, 1);
+        sold(2, 2, 0, 1);
+        sold(3, 2, 0, 1);
+        sold(3, 3, -6, -6);
+        sold(20, 0, 0, 1);
+        sold(20, 1, 0, 1);
+        sold(5, 5, -6, -6);
+        sold(0, 20, -6, -6);
+        sold(20, 20, -6, -6);
+        sold(20, 2, 0, 1);
+        sold(20, 3, -6, -6);
+        SilenceMinute x = threeRide();
+        int[][] wrong = {{21, 0, 0}, {-1, 0, 0}, {0, 21, 0}, {0, -1, 1}, {0, 0, 2}, {0, 0, -1}, {MIN, MAX, 0}};
+        for (int[] w : wrong) {
+            due.refused(x, "28 wrong", () -> x.auction(w[0], w[1], w[2]), -2);
+        }
+    }
+
+    private static void mean(SilenceMinute x, int compartment, int t, long upper, long lower) {
+        due.same("29 upper by " + t, x.coughs(compartment, t, 0), upper);
+        due.same("29 lower by " + t, x.coughs(compartment, t, 1), lower);
+    }
+
+    private static void promise29Coughs() {
+        SilenceMinute x = threeRide();
+        mean(x, 0, 5, 0, 1);
+        due.does(x, "A05", 1);
+        mean(x, 0, 0, 0, 1);
+        mean(x, 0, 1, 8, 5);
+        mean(x, 0, 5, 8, 1);
+        mean(x, 0, 10, 16, 1);
+        mean(x, 1, 10, 0, 1);
+        x.fine(99);
+        mean(x, 0, 1, 396, 5);
+        mean(x, 0, 10, 792, 1);
+        x.fine(5);
+        mean(x, 0, 3, 12, 1);
+        due.does(x, "...", 3);
+        mean(x, 0, 1, 2, 1);
+        x.fine(1);
+        mean(x, 0, 7, 14, 5);
+        x.ride(1, -1, 0);
+        mean(x, 0, 3, 3, 5);
+        due.does(x, "...A00C01", 5);
+        mean(x, 0, 10, 0, 1);
+        due.refused(x, "29 coughs(3, 11, 2)", () -> x.coughs(3, 11, 2), -1000000000000000001L);
+        due.refused(x, "29 coughs(-1, 0, 0)", () -> x.coughs(-1, 0, 0), -1000000000000000001L);
+        int[][] wrong = {{11, 0}, {-1, 0}, {0, 2}, {0, -1}, {MIN, MAX}};
+        for (int[] w : wrong) {
+            due.refused(x, "29 wrong", () -> x.coughs(0, w[0], w[1]), -1000000000000000002L);
+        }
+    }
+
+    private static void years(SilenceMinute x, int seed, int m, int guard, int fines, int minute) {
+        due.same("30 guard", x.year(seed, m, 0), guard);
+        due.same("30 fines", x.year(seed, m, 1), fines);
+        due.same("30 minute", x.year(seed, m, 2), minute);
+    }
+
+    private static void promise30Year() {
+        SilenceMinute x = threeRide();
+        years(x, 0, 1, 0, 0, 0);
+        years(x, 77, 99, 65, 2, 12);
+        years(x, 5, 40, 31, 0, 6);
+        due.does(x, "A05.", 2);
+        // x becomes 75 times 2 and 74, 224: by 8 nothing is left over.
+        years(x, 2, 1, 5, 0, 2);
+        // x becomes 75 times 3 and 74, 299: 3 is left over, B bids 4.
+        years(x, 3, 1, 0, 0, 1);
+        // x becomes 75 times 53 and 74, 4049: 1 is left over.
+        years(x, 53, 1, 5, 0, 2);
+        // x becomes 75 times 57 and 74, 4349: 5 is left over, 543 by 6 is D, who does not ride.
+        years(x, 57, 1, 0, 0, 1);
+        // x becomes 75 times 1 and 74, 149: 5 is left over, 18 by 6 is A, who holds it himself.
+        years(x, 1, 1, 0, 0, 1);
+        // x becomes 75 times 7 and 74, 599: 7 is left over, 74 by 6 is C, who coughs.
+        years(x, 7, 1, 2, 2, 1);
+        due.same("30 nothing is done", x.told(3), 5);
+        due.same("30 it is still minute 1", x.told(2), 1);
+        int[][] wrong = {{10000, 1, 0}, {-1, 1, 0}, {0, 0, 0}, {0, 100, 0}, {0, 1, 3}, {0, 1, -1}, {MIN, MAX, 0}};
+        for (int[] w : wrong) {
+            due.refused(x, "30 wrong", () -> x.year(w[0], w[1], w[2]), -2);
+        }
+    }
+
+    private static void promise31Image() {
+        SilenceMinute x = threeRide();
+        Due.write(x, "A05");
+        due.refused(x, "31 image(0)", () -> x.image(0), 1);
+        due.refused(x, "31 image(1)", () -> x.image(1), 1);
+        due.refused(x, "31 image(0) again", () -> x.image(0), 1);
+        for (int wrong : new int[] {2, -1, MIN, MAX}) {
+            due.refused(x, "31 image(" + wrong + ")", () -> x.image(wrong), -2);
+        }
+    }
+
+    private static void changeAll(SilenceMinute x) {
+        x.line(20);
+        x.tunnel(9, true);
+        for (int t = 0; t < 6; t++) {
+            x.ride(t, t + 1, t + 9);
+            x.seat(t, (t + 1) % 3);
+            x.purse(t, 100 + t);
+        }
+        x.fine(7);
+        x.seen(3, 3);
+        Due.write(x, "..A03B04C05D06E07F08..");
+        x.done();
+    }
+
+    private static void promise32Restore() {
+        SilenceMinute x = threeRide();
+        x.seen(1, 0);
+        due.refused(x, "32 restore(0), not kept", () -> x.restore(0), -3);
+        due.refused(x, "32 restore(1), not kept", () -> x.restore(1), -3);
+        for (int wrong : new int[] {2, -1, MIN, MAX}) {
+            due.refused(x, "32 restore(" + wrong + ")", () -> x.restore(wrong), -2);
+        }
+        String first = Due.seenOf(x);
+        x.image(0);
+        due.refused(x, "32 the other one is not kept", () -> x.restore(1), -3);
+        changeAll(x);
+        String second = Due.seenOf(x);
+        x.image(1);
+        due.same("32 restore(0)", x.restore(0), 1);
+        due.truth("32 it is as it was", first.equals(Due.seenOf(x)));
+        x.forget();
+        x.seen(0, 5);
+        due.same("32 restore(1)", x.restore(1), 1);
+        due.truth("32 it is as it was later", second.equals(Due.seenOf(x)));
+        Due.write(x, "A1");
+        due.same("32 restore(0) again", x.restore(0), 1);
+        due.same("32 the pad stays", x.fault(), 2);
+        x.wipe();
+        due.truth("32 what was kept stays kept", first.equals(Due.seenOf(x)));
+    }
+
+    private static void promise33Told() {
+        SilenceMinute x = new SilenceMinute();
+        changeAll(x);
+        Due.write(x, "A0");
+        int[] want = {2, 20, 4, 19, 7, 1, 1 << 9};
+        for (int what = 0; what < want.length; what++) {
+            due.same("33 told(" + what + ")", x.told(what), want[what]);
+        }
+        int[] purses = {94, 93, 97, 103, 104, 105};
+        for (int t = 0; t < 6; t++) {
+            int at = 10 * (1 + t);
+            due.same("33 from", x.told(at), t + 1);
+            due.same("33 to", x.told(at + 1), t + 9);
+            due.same("33 compartment", x.told(at + 2), (t + 1) % 3);
+            due.same("33 purse of " + t, x.told(at + 3), purses[t]);
+            due.same("33 bid", x.told(at + 4), t + 3);
+        }
+        int[] wrong = {7, 8, 9, 15, 19, 25, 65, 69, 70, 74, 100, -1, -6, -10, -20, MIN, MAX};
+        for (int w : wrong) {
+            due.refused(x, "33 told(" + w + ")", () -> x.told(w), -2);
+        }
+    }
+}
