@@ -175,7 +175,7 @@ public final class SilenceMinute {
         if (!now.maySpeak(traveller)) {
             return NONE;
         }
-        return now.ridersOf(now.seats[traveller], now.minute) & ~(1 << traveller);
+        return now.companionsOf(traveller, now.minute);
     }
 
     public int forecast(int compartment, int d) {
@@ -351,12 +351,7 @@ public final class SilenceMinute {
         if (!isWithin(t, 0, 10) || !isWithin(part, 0, 1)) {
             return LOST + OUTSIDE;
         }
-        int upper = now.fineAmount * t * chancesToCough(compartment);
-        int common = commonDivisor(upper, 10);
-        if (common <= 0) {
-            return part;
-        }
-        return part == 0 ? upper / common : 10 / common;
+        return tenthsInLowestTerms(now.fineAmount * t * chancesToCough(compartment), part);
     }
 
     public int year(int seed, int m, int what) {
@@ -443,7 +438,7 @@ public final class SilenceMinute {
         trial.setBid(traveller, bid);
         for (int m = now.minute; m < now.length; m++) {
             boolean mustHold = trial.ridesAt(traveller, m) && !trial.isTunnel(m);
-            if (mustHold && trial.holderOf(trial.seats[traveller]) != traveller) {
+            if (mustHold && !trial.isHolder(traveller)) {
                 return false;
             }
             trial.passMinute();
@@ -496,14 +491,19 @@ public final class SilenceMinute {
         return chances;
     }
 
-    /** The greatest number by which both can be divided; the second one is from 1 to 10. */
-    private static int commonDivisor(int a, int b) {
-        for (int d = b; d > 1; d--) {
-            if (a % d == 0 && b % d == 0) {
-                return d;
-            }
+    /** Nothing but 2 and 5 divides ten, so these alone can be common to both numbers. */
+    private static int tenthsInLowestTerms(int tenths, int part) {
+        int upper = tenths;
+        int lower = 10;
+        if (upper % 2 == 0) {
+            upper /= 2;
+            lower /= 2;
         }
-        return 1;
+        if (upper % 5 == 0) {
+            upper /= 5;
+            lower /= 5;
+        }
+        return part == 0 ? upper : lower;
     }
 
     private Image imageAt(int n) {
@@ -642,6 +642,14 @@ public final class SilenceMinute {
             return riders;
         }
 
+        /** Who else rides with one in a minute, as bits; nobody, if he does not ride himself. */
+        int companionsOf(int t, int m) {
+            if (!isTraveller(t) || !ridesAt(t, m)) {
+                return 0;
+            }
+            return ridersOf(seats[t], m) & ~(1 << t);
+        }
+
         int ridersOfLine() {
             int riders = 0;
             for (int t = 0; t < TRAVELLERS; t++) {
@@ -677,8 +685,12 @@ public final class SilenceMinute {
             return holder;
         }
 
+        boolean isHolder(int t) {
+            return isTraveller(t) && holderOf(seats[t]) == t;
+        }
+
         boolean maySpeak(int t) {
-            if (!ridesNow(t)) {
+            if (!isTraveller(t) || !ridesNow(t)) {
                 return false;
             }
             int holder = holderOf(seats[t]);
@@ -701,7 +713,7 @@ public final class SilenceMinute {
         }
 
         void takeCough(int t) {
-            if (!ridesNow(t)) {
+            if (!isTraveller(t) || !ridesNow(t)) {
                 return;
             }
             int holder = holderOf(seats[t]);
@@ -995,17 +1007,9 @@ public final class SilenceMinute {
         int suspects(Train train) {
             int left = train.ridersOfLine();
             for (int i = 0; i < count && i < SIZE; i++) {
-                left &= heardBy(train, travellers[i], minutes[i]);
+                left &= train.companionsOf(travellers[i], minutes[i]);
             }
             return left;
-        }
-
-        /** Who rode with one in a minute, as bits; nobody, if he did not ride himself. */
-        private static int heardBy(Train train, int t, int m) {
-            if (!isTraveller(t) || !train.ridesAt(t, m)) {
-                return 0;
-            }
-            return train.ridersOf(train.seats[t], m) & ~(1 << t);
         }
     }
 

@@ -15,22 +15,13 @@ public final class BidsTest {
         due.end();
     }
 
-    private static SilenceMinute threeRide() {
-        SilenceMinute x = new SilenceMinute();
-        x.ride(0, 0, 5);
-        x.ride(1, 2, 9);
-        x.ride(2, 0, 11);
-        x.tunnel(4, true);
-        return x;
-    }
-
     private static void bought(SilenceMinute x, int t, int bid, int pays) {
         due.same("19 buy(" + t + ", 0)", x.buy(t, 0), bid);
         due.same("19 buy(" + t + ", 1)", x.buy(t, 1), pays);
     }
 
     private static void promise19Buy() {
-        SilenceMinute x = threeRide();
+        SilenceMinute x = Due.threeRide();
         due.does(x, "A05", 1);
         bought(x, 2, -6, -6);
         x.purse(2, 66);
@@ -78,7 +69,7 @@ public final class BidsTest {
     }
 
     private static void promise20Seats() {
-        SilenceMinute x = threeRide();
+        SilenceMinute x = Due.threeRide();
         seated(x, 0, 0, 27, 333);
         seated(x, 1, 0, 18, 10333);
         seated(x, 0, 1, 9, 333);
@@ -116,10 +107,14 @@ public final class BidsTest {
         seated(x, 0, 0, 9, 3333);
         x.line(21);
         seated(x, 0, 0, 27, 3330);
+        x.ride(1, 0, 0);
+        seated(x, 0, 1, 9, 3330);
+        x.ride(1, 20, 20);
+        seated(x, 0, 1 << 8, 9, 3330);
     }
 
     private static void promise21Word() {
-        SilenceMinute x = threeRide();
+        SilenceMinute x = Due.threeRide();
         due.same("21 word(0, 0)", x.word(0, 0), 7);
         due.same("21 word(0, 4)", x.word(0, 4), 7);
         due.same("21 word(0, 5)", x.word(0, 5), 1);
@@ -142,7 +137,7 @@ public final class BidsTest {
     }
 
     private static void promise22Heard() {
-        SilenceMinute x = threeRide();
+        SilenceMinute x = Due.threeRide();
         x.ride(5, 8, 11);
         x.tunnel(8, true);
         due.same("22 himself", x.heard(0, 7, 0), 7);
@@ -169,7 +164,7 @@ public final class BidsTest {
     }
 
     private static void promise23Richest() {
-        SilenceMinute x = threeRide();
+        SilenceMinute x = Due.threeRide();
         rich(x, 0, 0, -6);
         due.does(x, "C04", 1);
         rich(x, 0, 44, 2);
@@ -187,6 +182,12 @@ public final class BidsTest {
         rich(x, 0, 44, 0);
         due.does(x, ".", 1);
         rich(x, 1, 40, 2);
+        x.ride(5, 11, 11);
+        x.seat(5, 2);
+        due.does(x, "F45", 1);
+        rich(x, 2, 69, 5);
+        due.does(x, "A00B00C00F01", 4);
+        rich(x, 2, 1, 5);
         for (int wrong : new int[] {3, -1, MIN, MAX}) {
             due.refused(x, "23 richest(" + wrong + ")", () -> x.richest(wrong), -2);
         }

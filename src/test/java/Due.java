@@ -34,6 +34,16 @@ final class Due {
         }
     }
 
+    /** A 0 to 5, B 2 to 9, C the whole line, all in compartment 0; minute 4 is a tunnel. */
+    static SilenceMinute threeRide() {
+        SilenceMinute x = new SilenceMinute();
+        x.ride(0, 0, 5);
+        x.ride(1, 2, 9);
+        x.ride(2, 0, 11);
+        x.tunnel(4, true);
+        return x;
+    }
+
     /** Writes a text on an empty pad. */
     static void write(SilenceMinute x, String text) {
         x.wipe();

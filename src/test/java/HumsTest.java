@@ -18,15 +18,6 @@ public final class HumsTest {
         due.end();
     }
 
-    private static SilenceMinute threeRide() {
-        SilenceMinute x = new SilenceMinute();
-        x.ride(0, 0, 5);
-        x.ride(1, 2, 9);
-        x.ride(2, 0, 11);
-        x.tunnel(4, true);
-        return x;
-    }
-
     private static void promise24Seen() {
         SilenceMinute x = new SilenceMinute();
         for (int n = 1; n <= 8; n++) {
@@ -41,7 +32,7 @@ public final class HumsTest {
     }
 
     private static void promise25Forget() {
-        SilenceMinute x = threeRide();
+        SilenceMinute x = Due.threeRide();
         due.same("25 none", x.forget(), 0);
         x.seen(0, 0);
         x.seen(0, 2);
@@ -51,7 +42,7 @@ public final class HumsTest {
     }
 
     private static void promise26Hum() {
-        SilenceMinute x = threeRide();
+        SilenceMinute x = Due.threeRide();
         due.same("26 all who ride", x.hum(), 7);
         x.ride(5, 12, 20);
         due.same("26 behind the line", x.hum(), 7);
@@ -78,7 +69,7 @@ public final class HumsTest {
     }
 
     private static void promise27Watch() {
-        SilenceMinute x = threeRide();
+        SilenceMinute x = Due.threeRide();
         watched(x, 0, 2);
         x.seen(0, 0);
         watched(x, 0, 1);
@@ -106,6 +97,11 @@ public final class HumsTest {
         x.ride(3, -1, 0);
         x.ride(0, 6, 29);
         watched(x, 0, 1);
+        for (int t = 0; t < 6; t++) {
+            x.ride(t, 0, 6);
+            x.seat(t, 1);
+        }
+        watched(x, 0, 6);
         for (int wrong : new int[] {2, -1, MIN, MAX}) {
             due.refused(x, "27 watch(" + wrong + ")", () -> x.watch(wrong), -2);
         }
@@ -132,7 +128,7 @@ public final class HumsTest {
         sold(20, 20, -6, -6);
         sold(20, 2, 0, 1);
         sold(20, 3, -6, -6);
-        SilenceMinute x = threeRide();
+        SilenceMinute x = Due.threeRide();
         int[][] wrong = {{21, 0, 0}, {-1, 0, 0}, {0, 21, 0}, {0, -1, 1}, {0, 0, 2}, {0, 0, -1}, {MIN, MAX, 0}};
         for (int[] w : wrong) {
             due.refused(x, "28 wrong", () -> x.auction(w[0], w[1], w[2]), -2);
@@ -145,7 +141,7 @@ public final class HumsTest {
     }
 
     private static void promise29Coughs() {
-        SilenceMinute x = threeRide();
+        SilenceMinute x = Due.threeRide();
         mean(x, 0, 5, 0, 1);
         due.does(x, "A05", 1);
         mean(x, 0, 0, 0, 1);
@@ -164,7 +160,11 @@ public final class HumsTest {
         mean(x, 0, 7, 14, 5);
         x.ride(1, -1, 0);
         mean(x, 0, 3, 3, 5);
-        due.does(x, "...A00C01", 5);
+        due.does(x, "..", 2);
+        mean(x, 0, 3, 3, 10);
+        mean(x, 0, 5, 1, 2);
+        mean(x, 0, 8, 4, 5);
+        due.does(x, ".A00C01", 3);
         mean(x, 0, 10, 0, 1);
         due.refused(x, "29 coughs(3, 11, 2)", () -> x.coughs(3, 11, 2), -1000000000000000001L);
         due.refused(x, "29 coughs(-1, 0, 0)", () -> x.coughs(-1, 0, 0), -1000000000000000001L);
@@ -181,7 +181,7 @@ public final class HumsTest {
     }
 
     private static void promise30Year() {
-        SilenceMinute x = threeRide();
+        SilenceMinute x = Due.threeRide();
         years(x, 0, 1, 0, 0, 0);
         years(x, 77, 99, 65, 2, 12);
         years(x, 5, 40, 31, 0, 6);
@@ -198,6 +198,11 @@ public final class HumsTest {
         years(x, 1, 1, 0, 0, 1);
         // x becomes 75 times 7 and 74, 599: 7 is left over, 74 by 6 is C, who coughs.
         years(x, 7, 1, 2, 2, 1);
+        // x becomes 75 times 18 and 74, 1424, the minute passes; then 41337: 1 is left over, it passes again.
+        years(x, 18, 2, 10, 0, 3);
+        // x becomes 75 times 14 and 74, 1124: 4 is left over, 140 by 6 is C, who bids 17;
+        // then 18837: 5 is left over, 2354 by 6 is C, who holds it now and coughs.
+        years(x, 14, 2, 0, 0, 1);
         due.same("30 nothing is done", x.told(3), 5);
         due.same("30 it is still minute 1", x.told(2), 1);
         int[][] wrong = {{10000, 1, 0}, {-1, 1, 0}, {0, 0, 0}, {0, 100, 0}, {0, 1, 3}, {0, 1, -1}, {MIN, MAX, 0}};
@@ -207,7 +212,7 @@ public final class HumsTest {
     }
 
     private static void promise31Image() {
-        SilenceMinute x = threeRide();
+        SilenceMinute x = Due.threeRide();
         Due.write(x, "A05");
         due.refused(x, "31 image(0)", () -> x.image(0), 1);
         due.refused(x, "31 image(1)", () -> x.image(1), 1);
@@ -232,7 +237,7 @@ public final class HumsTest {
     }
 
     private static void promise32Restore() {
-        SilenceMinute x = threeRide();
+        SilenceMinute x = Due.threeRide();
         x.seen(1, 0);
         due.refused(x, "32 restore(0), not kept", () -> x.restore(0), -3);
         due.refused(x, "32 restore(1), not kept", () -> x.restore(1), -3);

@@ -17,16 +17,6 @@ public final class RidesTest {
         due.end();
     }
 
-    /** A 0 to 5, B 2 to 9, C the whole line, all in compartment 0; minute 4 is a tunnel. */
-    private static SilenceMinute threeRide() {
-        SilenceMinute x = new SilenceMinute();
-        x.ride(0, 0, 5);
-        x.ride(1, 2, 9);
-        x.ride(2, 0, 11);
-        x.tunnel(4, true);
-        return x;
-    }
-
     private static void judged(SilenceMinute x, String text, int act, int why) {
         Due.write(x, text);
         due.same("11 judge(0) of " + text, x.judge(0), act);
@@ -34,7 +24,7 @@ public final class RidesTest {
     }
 
     private static void promise11Judge() {
-        SilenceMinute x = threeRide();
+        SilenceMinute x = Due.threeRide();
         judged(x, "", -6, -6);
         judged(x, "AcAsAh", -6, -6);
         judged(x, "Bc", 0, 1);
@@ -64,7 +54,7 @@ public final class RidesTest {
     }
 
     private static void promise12Done() {
-        SilenceMinute x = threeRide();
+        SilenceMinute x = Due.threeRide();
         due.does(x, "", 0);
         due.does(x, "A05CcAh..", 5);
         due.same("12 the pad is empty", x.told(0), 0);
@@ -82,7 +72,7 @@ public final class RidesTest {
     }
 
     private static void promise13Behind() {
-        SilenceMinute x = threeRide();
+        SilenceMinute x = Due.threeRide();
         due.does(x, "A05.", 2);
         Due.write(x, "Cc.C06Ac.");
         int[] want = {38, 50, 42, 50, 50, 50, 20, 3, 4};
@@ -101,7 +91,7 @@ public final class RidesTest {
     }
 
     private static void promise13Fines() {
-        SilenceMinute x = threeRide();
+        SilenceMinute x = Due.threeRide();
         x.fine(30);
         Due.write(x, "A05CcCcCc");
         due.same("13 the rest of the purse, then nobody holds", x.behind(0), 0);
@@ -116,7 +106,7 @@ public final class RidesTest {
     }
 
     private static void promise14Holds() {
-        SilenceMinute x = threeRide();
+        SilenceMinute x = Due.threeRide();
         due.same("14 nobody bids", x.holds(0), -6);
         due.does(x, "A05B99C05", 3);
         due.same("14 the least of equals; B does not ride yet", x.holds(0), 0);
@@ -140,7 +130,7 @@ public final class RidesTest {
     }
 
     private static void promise15Hears() {
-        SilenceMinute x = threeRide();
+        SilenceMinute x = Due.threeRide();
         due.same("15 A", x.hears(0), 4);
         due.same("15 B does not ride", x.hears(1), -6);
         due.does(x, "C01", 1);
@@ -160,7 +150,7 @@ public final class RidesTest {
     }
 
     private static void promise16Forecast() {
-        SilenceMinute x = threeRide();
+        SilenceMinute x = Due.threeRide();
         due.does(x, "A20C05", 2);
         int[] want = {0, 0, 2, 2, -6, 2, 2, 2, 2, 2, 2, 2, -6};
         for (int d = 0; d < want.length; d++) {
@@ -183,7 +173,7 @@ public final class RidesTest {
     }
 
     private static void promise17Rests() {
-        SilenceMinute x = threeRide();
+        SilenceMinute x = Due.threeRide();
         due.does(x, "A20C05", 2);
         due.same("17 A", x.rests(0), 10);
         due.same("17 B", x.rests(1), 50);
@@ -197,7 +187,7 @@ public final class RidesTest {
     }
 
     private static void promise18Talks() {
-        SilenceMinute x = threeRide();
+        SilenceMinute x = Due.threeRide();
         due.same("18 nobody bids", x.talks(0, 1), 4);
         due.does(x, "A05", 1);
         due.same("18 the tunnel alone", x.talks(2, 0), 1);
