@@ -59,8 +59,11 @@ public final class HumsTest {
         x.seen(11, 0);
         due.same("26 a told one did not ride", x.hum(), 0);
         x.forget();
+        x.ride(4, 0, 29);
         x.seen(12, 5);
         due.same("26 behind the line, told", x.hum(), 0);
+        x.line(13);
+        due.same("26 the line reaches 12", x.hum(), 16);
     }
 
     private static void watched(SilenceMinute x, int where, int many) {

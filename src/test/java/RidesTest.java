@@ -42,6 +42,8 @@ public final class RidesTest {
         judged(x, "............Cc.", 12, 1);
         judged(x, "............C44.", 13, 3);
         judged(x, "......As", 6, 1);
+        x.ride(2, 0, 29);
+        judged(x, "............Ch", 12, 1);
         judged(x, "BcG", -5, -5);
         judged(x, "BcA", -5, -5);
         for (int wrong : new int[] {2, -1, MIN, MAX}) {
@@ -122,8 +124,9 @@ public final class RidesTest {
         due.same("14 nobody is left", x.holds(0), -6);
         due.does(x, "....", 4);
         due.same("14 a tunnel", x.holds(2), -6);
-        due.does(x, "........", 8);
-        due.same("14 the end", x.holds(0), -6);
+        x.ride(0, 0, 29);
+        due.does(x, "A01........", 9);
+        due.same("14 the end", x.holds(2), -6);
         for (int wrong : new int[] {3, -1, MIN, MAX}) {
             due.refused(x, "14 holds(" + wrong + ")", () -> x.holds(wrong), -1);
         }
@@ -142,6 +145,7 @@ public final class RidesTest {
         due.same("15 alone", x.hears(1), 0);
         due.does(x, "..", 2);
         due.same("15 a tunnel", x.hears(0), 4);
+        x.ride(2, 0, 29);
         due.does(x, "........", 8);
         due.same("15 the end", x.hears(2), -6);
         for (int wrong : new int[] {6, -1, MIN, MAX}) {
@@ -157,6 +161,8 @@ public final class RidesTest {
             due.same("16 forecast(0, " + d + ")", x.forecast(0, d), want[d]);
         }
         due.same("16 at the end", x.forecast(0, 30), -6);
+        x.ride(2, 0, 29);
+        due.same("16 at the end, who would ride on", x.forecast(0, 12), -6);
         due.same("16 another compartment", x.forecast(1, 0), -6);
         due.does(x, ".", 1);
         due.same("16 from now on", x.forecast(0, 1), 2);
