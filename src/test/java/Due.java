@@ -1,6 +1,10 @@
+import java.util.function.Supplier;
+import java.util.function.ToLongFunction;
+
 /** Collects the answers of one test that are not the ones that are due. */
 final class Due {
     private final String test;
+    private String sentence = "";
     private int asked;
     private int wrong;
 
@@ -8,23 +12,32 @@ final class Due {
         this.test = test;
     }
 
+    /** The words of the document by which the next answers are due. */
+    void sentence(String words) {
+        sentence = words + ": ";
+    }
+
     void same(String call, long got, long want) {
         asked++;
         if (got != want) {
             wrong++;
-            System.out.println(test + ": " + call + " answered " + got + ", due is " + want);
+            System.out.println(test + ": " + sentence + call + " answered " + got + ", due is " + want);
         }
-    }
-
-    /** A call that must answer this and leave the whole object as it was. */
-    void refused(SilenceMinute x, String call, java.util.function.LongSupplier ask, long want) {
-        String before = seenOf(x);
-        same(call, ask.getAsLong(), want);
-        truth(call + " changes nothing", before.equals(seenOf(x)));
     }
 
     void truth(String what, boolean holds) {
         same(what, holds ? 1 : 0, 1);
+    }
+
+    /** Two objects made alike: the one that was asked must tell all that the other one tells. */
+    void refused(Supplier<SilenceMinute> made, String call, ToLongFunction<SilenceMinute> ask, long want) {
+        SilenceMinute x = made.get();
+        same(call, ask.applyAsLong(x), want);
+        truth(call + " changes nothing", AllTold.of(x).equals(AllTold.of(made.get())));
+    }
+
+    int asked() {
+        return asked;
     }
 
     void end() {
@@ -44,6 +57,16 @@ final class Due {
         return x;
     }
 
+    /** All six ride the whole line, in compartment 0. */
+    static SilenceMinute allRide(int minutes) {
+        SilenceMinute x = new SilenceMinute();
+        x.line(minutes);
+        for (int t = 0; t < 6; t++) {
+            x.ride(t, 0, 29);
+        }
+        return x;
+    }
+
     /** Writes a text on an empty pad. */
     static void write(SilenceMinute x, String text) {
         x.wipe();
@@ -58,16 +81,15 @@ final class Due {
         same("done() of " + text, x.done(), acts);
     }
 
-    /** All that can be seen of an object without changing it. */
-    static String seenOf(SilenceMinute x) {
-        StringBuilder b = new StringBuilder();
-        for (int what = 0; what < 65; what++) {
-            b.append(x.told(what)).append(' ');
-        }
-        b.append(x.hum()).append(' ').append(x.fault()).append(' ').append(x.judge(0)).append(' ').append(x.judge(1));
-        for (int what = 0; what <= 8; what++) {
-            b.append(' ').append(x.behind(what));
-        }
-        return b.toString();
+    void judged(SilenceMinute x, String text, int act, int why) {
+        write(x, text);
+        same("judge(0) of " + text, x.judge(0), act);
+        same("judge(1) of " + text, x.judge(1), why);
+    }
+
+    void faulty(String text, int place) {
+        SilenceMinute x = new SilenceMinute();
+        write(x, text);
+        same("fault() of " + text, x.fault(), place);
     }
 }

