@@ -38,20 +38,15 @@ public final class BidsEdgesTest {
         due.end();
     }
 
-    private static void bought(SilenceMinute x, int t, int bid, int pays) {
-        due.same("buy(" + t + ", 0)", x.buy(t, 0), bid);
-        due.same("buy(" + t + ", 1)", x.buy(t, 1), pays);
-    }
-
     private static void buyForLeast() {
         due.sentence("19 the least BID (1 to 99): 1");
         SilenceMinute x = Due.allRide(12);
         for (int t = 0; t < 6; t++) {
-            bought(x, t, 1, 12);
+            due.bought(x, t, 1, 12);
         }
         due.does(x, "C01", 1);
-        bought(x, 0, 1, 12);
-        bought(x, 3, 2, 24);
+        due.bought(x, 0, 1, 12);
+        due.bought(x, 3, 2, 24);
     }
 
     private static void buyForMost() {
@@ -61,23 +56,23 @@ public final class BidsEdgesTest {
             x.purse(t, 999);
         }
         due.does(x, "C98", 1);
-        bought(x, 3, 99, 99);
-        bought(x, 0, 98, 98);
+        due.bought(x, 3, 99, 99);
+        due.bought(x, 0, 98, 98);
         due.does(x, "C99", 1);
-        bought(x, 3, NONE, NONE);
-        bought(x, 0, 99, 99);
-        bought(x, 2, 1, 1);
+        due.bought(x, 3, NONE, NONE);
+        due.bought(x, 0, 99, 99);
+        due.bought(x, 2, 1, 1);
     }
 
     private static void buyAgainstEquals() {
         due.sentence("19 he holds the silence (of several the least does)");
         SilenceMinute x = Due.allRide(2);
         due.does(x, "B07D07", 2);
-        bought(x, 0, 7, 14);
-        bought(x, 1, 7, 14);
-        bought(x, 2, 8, 16);
-        bought(x, 3, 8, 16);
-        bought(x, 4, 8, 16);
+        due.bought(x, 0, 7, 14);
+        due.bought(x, 1, 7, 14);
+        due.bought(x, 2, 8, 16);
+        due.bought(x, 3, 8, 16);
+        due.bought(x, 4, 8, 16);
     }
 
     private static void buyByHisPurse() {
@@ -85,17 +80,17 @@ public final class BidsEdgesTest {
         SilenceMinute x = Due.allRide(10);
         due.does(x, "A06", 1);
         x.purse(5, 70);
-        bought(x, 5, 7, 70);
+        due.bought(x, 5, 7, 70);
         x.purse(5, 69);
-        bought(x, 5, NONE, NONE);
+        due.bought(x, 5, NONE, NONE);
         x.purse(5, 0);
-        bought(x, 5, NONE, NONE);
+        due.bought(x, 5, NONE, NONE);
         due.does(x, "A00", 1);
-        bought(x, 5, NONE, NONE);
+        due.bought(x, 5, NONE, NONE);
         x.purse(5, 9);
-        bought(x, 5, NONE, NONE);
+        due.bought(x, 5, NONE, NONE);
         x.purse(5, 10);
-        bought(x, 5, 1, 10);
+        due.bought(x, 5, 1, 10);
     }
 
     private static void buyWhoCanNotPay() {
@@ -103,9 +98,9 @@ public final class BidsEdgesTest {
         SilenceMinute x = Due.allRide(2);
         due.does(x, "A20", 1);
         x.purse(0, 20);
-        bought(x, 1, 21, 42);
+        due.bought(x, 1, 21, 42);
         x.purse(0, 19);
-        bought(x, 1, 1, 2);
+        due.bought(x, 1, 1, 2);
     }
 
     private static void buyWhileHeRides() {
@@ -114,30 +109,30 @@ public final class BidsEdgesTest {
         x.purse(0, 24);
         due.does(x, "A08", 1);
         x.ride(1, 3, 5);
-        bought(x, 1, 1, 3);
+        due.bought(x, 1, 1, 3);
         x.ride(1, 2, 5);
-        bought(x, 1, 9, 36);
+        due.bought(x, 1, 9, 36);
         x.ride(1, 11, 29);
-        bought(x, 1, 1, 1);
+        due.bought(x, 1, 1, 1);
     }
 
     private static void buyWhoRidesNoMore() {
         due.sentence("19 NONE: he rides no more");
         SilenceMinute x = new SilenceMinute();
-        bought(x, 0, NONE, NONE);
+        due.bought(x, 0, NONE, NONE);
         x.ride(0, 12, 20);
-        bought(x, 0, NONE, NONE);
+        due.bought(x, 0, NONE, NONE);
         x.ride(0, 2, 3);
-        bought(x, 0, 1, 2);
+        due.bought(x, 0, 1, 2);
         due.does(x, "...", 3);
-        bought(x, 0, 1, 1);
+        due.bought(x, 0, 1, 1);
         due.does(x, ".", 1);
-        bought(x, 0, NONE, NONE);
+        due.bought(x, 0, NONE, NONE);
         x.ride(0, 0, 29);
         due.does(x, ".......", 7);
-        bought(x, 0, 1, 1);
+        due.bought(x, 0, 1, 1);
         due.does(x, ".", 1);
-        bought(x, 0, NONE, NONE);
+        due.bought(x, 0, NONE, NONE);
     }
 
     private static void buyInTunnels() {
@@ -145,22 +140,22 @@ public final class BidsEdgesTest {
         SilenceMinute x = Due.allRide(3);
         x.purse(0, 999);
         due.does(x, "A99", 1);
-        bought(x, 1, NONE, NONE);
+        due.bought(x, 1, NONE, NONE);
         x.tunnel(0, true);
         x.tunnel(1, true);
-        bought(x, 0, 1, 1);
-        bought(x, 1, NONE, NONE);
+        due.bought(x, 0, 1, 1);
+        due.bought(x, 1, NONE, NONE);
         x.tunnel(2, true);
-        bought(x, 1, 1, 0);
+        due.bought(x, 1, 1, 0);
         x.purse(1, 0);
-        bought(x, 1, 1, 0);
+        due.bought(x, 1, 1, 0);
     }
 
     private static void buyWhateverHeBids() {
         due.sentence("19 the least BID of a TRAVELLER, from now on: his own till now is none, and stays");
         SilenceMinute x = Due.allRide(5);
         due.does(x, "A40B03", 2);
-        bought(x, 0, 3, 15);
+        due.bought(x, 0, 3, 15);
         due.same("his bid", x.told(14), 40);
         due.same("his purse", x.told(13), 50);
     }
@@ -170,26 +165,21 @@ public final class BidsEdgesTest {
         SilenceMinute x = Due.allRide(12);
         x.purse(0, 22);
         due.does(x, "A02", 1);
-        bought(x, 1, 3, 36);
+        due.bought(x, 1, 3, 36);
         due.does(x, "...........", 11);
         due.same("A has paid all", x.told(13), 0);
-        bought(x, 1, 1, 1);
-    }
-
-    private static void seated(SilenceMinute x, int apart, int together, int ways, int first) {
-        due.same("seats(" + apart + ", " + together + ", 0)", x.seats(apart, together, 0), ways);
-        due.same("seats(" + apart + ", " + together + ", 1)", x.seats(apart, together, 1), first);
+        due.bought(x, 1, 1, 1);
     }
 
     private static void seatsOfNobody() {
         due.sentence("20 COMPARTMENTS for all who ride in some minute: nobody does");
         SilenceMinute x = new SilenceMinute();
-        seated(x, 0, 0, 1, 333333);
-        seated(x, 32767, 0, 1, 333333);
-        seated(x, 0, 32767, 0, NONE);
+        due.seated(x, 0, 0, 1, 333333);
+        due.seated(x, 32767, 0, 1, 333333);
+        due.seated(x, 0, 32767, 0, NONE);
         for (int bit = 0; bit < 15; bit++) {
-            seated(x, 1 << bit, 0, 1, 333333);
-            seated(x, 0, 1 << bit, 0, NONE);
+            due.seated(x, 1 << bit, 0, 1, 333333);
+            due.seated(x, 0, 1 << bit, 0, NONE);
         }
     }
 
@@ -210,17 +200,17 @@ public final class BidsEdgesTest {
     private static void seatsOfAll() {
         due.sentence("20 sets 0 to 32767: all ride");
         SilenceMinute x = Due.allRide(12);
-        seated(x, 0, 0, 729, 0);
-        seated(x, 0, 32767, 3, 0);
-        seated(x, 32767, 0, 0, NONE);
-        seated(x, 16384, 0, 486, 1);
-        seated(x, 0, 16384, 243, 0);
-        seated(x, 1, 0, 486, 10000);
-        seated(x, 32766, 1, 0, NONE);
+        due.seated(x, 0, 0, 729, 0);
+        due.seated(x, 0, 32767, 3, 0);
+        due.seated(x, 32767, 0, 0, NONE);
+        due.seated(x, 16384, 0, 486, 1);
+        due.seated(x, 0, 16384, 243, 0);
+        due.seated(x, 1, 0, 486, 10000);
+        due.seated(x, 32766, 1, 0, NONE);
         x.ride(3, -1, 0);
         x.ride(4, -1, 0);
         x.ride(5, -1, 0);
-        seated(x, 32767, 0, 6, 12333);
+        due.seated(x, 32767, 0, 6, 12333);
     }
 
     private static void seatsInOneMinute() {
@@ -228,20 +218,20 @@ public final class BidsEdgesTest {
         SilenceMinute x = new SilenceMinute();
         x.ride(0, 0, 4);
         x.ride(1, 5, 9);
-        seated(x, 1, 0, 9, 3333);
-        seated(x, 0, 1, 0, NONE);
+        due.seated(x, 1, 0, 9, 3333);
+        due.seated(x, 0, 1, 0, NONE);
         x.ride(1, 4, 9);
-        seated(x, 1, 0, 6, 13333);
-        seated(x, 0, 1, 3, 3333);
+        due.seated(x, 1, 0, 6, 13333);
+        due.seated(x, 0, 1, 3, 3333);
         x.ride(0, 11, 20);
         x.ride(1, 11, 20);
-        seated(x, 0, 1, 3, 3333);
+        due.seated(x, 0, 1, 3, 3333);
         x.ride(0, 10, 12);
         x.ride(1, 12, 20);
         x.line(12);
-        seated(x, 0, 1, 0, NONE);
+        due.seated(x, 0, 1, 0, NONE);
         x.line(13);
-        seated(x, 0, 1, 3, 3333);
+        due.seated(x, 0, 1, 3, 3333);
     }
 
     private static void seatsOfWhoDoesNotRide() {
@@ -253,29 +243,29 @@ public final class BidsEdgesTest {
                 place *= 10;
             }
             x.ride(t, -1, 0);
-            seated(x, 0, 0, 243, 3 * place);
+            due.seated(x, 0, 0, 243, 3 * place);
             x.ride(t, 12, 29);
-            seated(x, 0, 0, 243, 3 * place);
+            due.seated(x, 0, 0, 243, 3 * place);
             x.ride(t, 11, 29);
-            seated(x, 0, 0, 729, 0);
+            due.seated(x, 0, 0, 729, 0);
         }
     }
 
     private static void seatsThatContradict() {
         due.sentence("20 must not meet, and must meet");
         SilenceMinute x = Due.allRide(12);
-        seated(x, 1, 1, 0, NONE);
-        seated(x, 2, 1 | 32, 0, NONE);
-        seated(x, 2, 1, 162, 1000);
+        due.seated(x, 1, 1, 0, NONE);
+        due.seated(x, 2, 1 | 32, 0, NONE);
+        due.seated(x, 2, 1, 162, 1000);
     }
 
     private static void seatsRising() {
         due.sentence("20 the first (six digits, A's the highest; rising)");
         SilenceMinute x = Due.allRide(12);
-        seated(x, 1 | 2 | 32, 0, 162, 12000);
-        seated(x, 1 << 14 | 1 << 13 | 1 << 12, 0, 162, 12);
-        seated(x, 31, 0, 96, 11111);
-        seated(x, 31, 1 << 14, 48, 11111);
+        due.seated(x, 1 | 2 | 32, 0, 162, 12000);
+        due.seated(x, 1 << 14 | 1 << 13 | 1 << 12, 0, 162, 12);
+        due.seated(x, 31, 0, 96, 11111);
+        due.seated(x, 31, 1 << 14, 48, 11111);
     }
 
     private static void seatsWhateverTheyAre() {
@@ -284,7 +274,7 @@ public final class BidsEdgesTest {
         x.seat(0, 2);
         x.seat(1, 1);
         due.does(x, "............", 12);
-        seated(x, 0, 1, 243, 0);
+        due.seated(x, 0, 1, 243, 0);
         due.same("A", x.told(12), 2);
         due.same("B", x.told(22), 1);
     }
@@ -422,24 +412,18 @@ public final class BidsEdgesTest {
         due.same("its last minute", x.heard(0, 0, 1), 3);
     }
 
-    private static void rich(SilenceMinute x, int compartment, int much, int traveller) {
-        due.same("richest(0)", x.richest(0), compartment);
-        due.same("richest(1)", x.richest(1), much);
-        due.same("richest(2)", x.richest(2), traveller);
-    }
-
     private static void richestOfNobody() {
         due.sentence("23 NONE: nobody pays");
         SilenceMinute x = new SilenceMinute();
-        rich(x, 0, 0, NONE);
+        due.rich(x, 0, 0, NONE);
         due.does(x, "A05", 1);
-        rich(x, 0, 0, NONE);
+        due.rich(x, 0, 0, NONE);
         x.ride(0, 12, 20);
-        rich(x, 0, 0, NONE);
+        due.rich(x, 0, 0, NONE);
         x.ride(0, 11, 20);
-        rich(x, 0, 5, 0);
+        due.rich(x, 0, 5, 0);
         x.tunnel(11, true);
-        rich(x, 0, 0, NONE);
+        due.rich(x, 0, 0, NONE);
     }
 
     private static void richestOfSeveral() {
@@ -449,15 +433,15 @@ public final class BidsEdgesTest {
             x.seat(t, 2 - t / 2);
         }
         due.does(x, "A04C04E04", 3);
-        rich(x, 0, 8, 0);
+        due.rich(x, 0, 8, 0);
         due.does(x, "E00", 1);
-        rich(x, 1, 8, 0);
+        due.rich(x, 1, 8, 0);
         due.does(x, "C00", 1);
-        rich(x, 2, 8, 0);
+        due.rich(x, 2, 8, 0);
         due.does(x, "A00F04", 2);
-        rich(x, 0, 8, 5);
+        due.rich(x, 0, 8, 5);
         due.does(x, "D05", 1);
-        rich(x, 1, 10, 3);
+        due.rich(x, 1, 10, 3);
     }
 
     private static void richestFromNowOn() {
@@ -465,11 +449,11 @@ public final class BidsEdgesTest {
         SilenceMinute x = Due.allRide(3);
         x.seat(1, 1);
         due.does(x, "A09.A00B02", 4);
-        rich(x, 1, 4, 1);
+        due.rich(x, 1, 4, 1);
         due.does(x, ".", 1);
-        rich(x, 1, 2, 1);
+        due.rich(x, 1, 2, 1);
         due.does(x, ".", 1);
-        rich(x, 0, 0, NONE);
+        due.rich(x, 0, 0, NONE);
         due.same("the guard", x.told(3), 13);
     }
 
@@ -480,10 +464,10 @@ public final class BidsEdgesTest {
         x.ride(1, 2, 3);
         x.seat(2, 1);
         due.does(x, "A10B10C09", 3);
-        rich(x, 0, 40, 2);
+        due.rich(x, 0, 40, 2);
         due.does(x, "C05", 1);
-        rich(x, 0, 40, 0);
+        due.rich(x, 0, 40, 0);
         due.does(x, "B11", 1);
-        rich(x, 0, 42, 1);
+        due.rich(x, 0, 42, 1);
     }
 }

@@ -13,28 +13,23 @@ public final class BidsTest {
         due.end();
     }
 
-    private static void bought(SilenceMinute x, int t, int bid, int pays) {
-        due.same("19 buy(" + t + ", 0)", x.buy(t, 0), bid);
-        due.same("19 buy(" + t + ", 1)", x.buy(t, 1), pays);
-    }
-
     private static void promise19Buy() {
         SilenceMinute x = Due.threeRide();
         due.does(x, "A05", 1);
-        bought(x, 2, -6, -6);
+        due.bought(x, 2, -6, -6);
         x.purse(2, 66);
-        bought(x, 2, 6, 66);
+        due.bought(x, 2, 6, 66);
         x.purse(2, 65);
-        bought(x, 2, -6, -6);
-        bought(x, 0, 1, 5);
-        bought(x, 1, 6, 42);
-        bought(x, 3, -6, -6);
+        due.bought(x, 2, -6, -6);
+        due.bought(x, 0, 1, 5);
+        due.bought(x, 1, 6, 42);
+        due.bought(x, 3, -6, -6);
         due.same("19 the bid stays", x.told(34), 0);
         due.does(x, ".....", 5);
-        bought(x, 0, 1, 1);
-        bought(x, 2, 6, 42);
+        due.bought(x, 0, 1, 1);
+        due.bought(x, 2, 6, 42);
         due.does(x, ".", 1);
-        bought(x, 0, -6, -6);
+        due.bought(x, 0, -6, -6);
     }
 
     private static void promise19Edges() {
@@ -44,63 +39,58 @@ public final class BidsTest {
         x.purse(0, 99);
         x.purse(1, 98);
         due.does(x, "B98", 1);
-        bought(x, 0, 98, 98);
+        due.bought(x, 0, 98, 98);
         due.does(x, "A98B99", 2);
         x.purse(1, 99);
-        bought(x, 0, 99, 99);
+        due.bought(x, 0, 99, 99);
         due.does(x, "A99", 1);
-        bought(x, 1, -6, -6);
+        due.bought(x, 1, -6, -6);
         x.tunnel(3, true);
         x.purse(1, 0);
-        bought(x, 1, 1, 0);
+        due.bought(x, 1, 1, 0);
         x.line(3);
-        bought(x, 1, -6, -6);
-    }
-
-    private static void seated(SilenceMinute x, int apart, int together, int ways, int first) {
-        due.same("20 ways " + apart + " " + together, x.seats(apart, together, 0), ways);
-        due.same("20 first " + apart + " " + together, x.seats(apart, together, 1), first);
+        due.bought(x, 1, -6, -6);
     }
 
     private static void promise20Seats() {
         SilenceMinute x = Due.threeRide();
-        seated(x, 0, 0, 27, 333);
-        seated(x, 1, 0, 18, 10333);
-        seated(x, 0, 1, 9, 333);
-        seated(x, 1, 1, 0, -6);
-        seated(x, 1 | 2 | 32, 0, 6, 12333);
-        seated(x, 0, 4, 0, -6);
-        seated(x, 4, 0, 27, 333);
-        seated(x, 2, 32, 6, 11333);
+        due.seated(x, 0, 0, 27, 333);
+        due.seated(x, 1, 0, 18, 10333);
+        due.seated(x, 0, 1, 9, 333);
+        due.seated(x, 1, 1, 0, -6);
+        due.seated(x, 1 | 2 | 32, 0, 6, 12333);
+        due.seated(x, 0, 4, 0, -6);
+        due.seated(x, 4, 0, 27, 333);
+        due.seated(x, 2, 32, 6, 11333);
         for (int t = 0; t < 6; t++) {
             x.ride(t, 0, 11);
         }
-        seated(x, 0, 0, 729, 0);
-        seated(x, 0, 32767, 3, 0);
-        seated(x, 32767, 0, 0, -6);
-        seated(x, 1 << 14, 0, 486, 1);
-        seated(x, 1 << 9, 1 << 14, 162, 100);
-        seated(x, 1 << 4 | 1 << 5 | 1 << 12, 0, 216, 1011);
+        due.seated(x, 0, 0, 729, 0);
+        due.seated(x, 0, 32767, 3, 0);
+        due.seated(x, 32767, 0, 0, -6);
+        due.seated(x, 1 << 14, 0, 486, 1);
+        due.seated(x, 1 << 9, 1 << 14, 162, 100);
+        due.seated(x, 1 << 4 | 1 << 5 | 1 << 12, 0, 216, 1011);
         due.same("20 nobody moves", x.told(12), 0);
     }
 
     private static void promise20Edges() {
         SilenceMinute x = new SilenceMinute();
-        seated(x, 0, 0, 1, 333333);
-        seated(x, 32767, 0, 1, 333333);
+        due.seated(x, 0, 0, 1, 333333);
+        due.seated(x, 32767, 0, 1, 333333);
         x.ride(0, 0, 4);
         x.ride(1, 5, 9);
         x.ride(5, 12, 20);
-        seated(x, 0, 1, 0, -6);
-        seated(x, 1, 0, 9, 3333);
+        due.seated(x, 0, 1, 0, -6);
+        due.seated(x, 1, 0, 9, 3333);
         due.does(x, ".......", 7);
-        seated(x, 0, 0, 9, 3333);
+        due.seated(x, 0, 0, 9, 3333);
         x.line(21);
-        seated(x, 0, 0, 27, 3330);
+        due.seated(x, 0, 0, 27, 3330);
         x.ride(1, 0, 0);
-        seated(x, 0, 1, 9, 3330);
+        due.seated(x, 0, 1, 9, 3330);
         x.ride(1, 20, 20);
-        seated(x, 0, 1 << 8, 9, 3330);
+        due.seated(x, 0, 1 << 8, 9, 3330);
     }
 
     private static void promise21Word() {
@@ -137,36 +127,30 @@ public final class BidsTest {
         due.same("22 the line ends", x.heard(0, 0, 5), -6);
     }
 
-    private static void rich(SilenceMinute x, int compartment, int much, int traveller) {
-        due.same("23 compartment", x.richest(0), compartment);
-        due.same("23 how much", x.richest(1), much);
-        due.same("23 traveller", x.richest(2), traveller);
-    }
-
     private static void promise23Richest() {
         SilenceMinute x = Due.threeRide();
-        rich(x, 0, 0, -6);
+        due.rich(x, 0, 0, -6);
         due.does(x, "C04", 1);
-        rich(x, 0, 44, 2);
+        due.rich(x, 0, 44, 2);
         x.seat(2, 1);
-        rich(x, 1, 44, 2);
+        due.rich(x, 1, 44, 2);
         due.does(x, "A08", 1);
-        rich(x, 1, 44, 2);
+        due.rich(x, 1, 44, 2);
         x.purse(1, 24);
         due.does(x, "B06A10", 2);
-        rich(x, 0, 74, 0);
+        due.rich(x, 0, 74, 0);
         x.purse(0, 44);
         due.does(x, "A11", 1);
-        rich(x, 0, 68, 0);
+        due.rich(x, 0, 68, 0);
         x.seat(1, 2);
-        rich(x, 0, 44, 0);
+        due.rich(x, 0, 44, 0);
         due.does(x, ".", 1);
-        rich(x, 1, 40, 2);
+        due.rich(x, 1, 40, 2);
         x.ride(5, 11, 11);
         x.seat(5, 2);
         due.does(x, "F45", 1);
-        rich(x, 2, 69, 5);
+        due.rich(x, 2, 69, 5);
         due.does(x, "A00B00C00F01", 4);
-        rich(x, 2, 1, 5);
+        due.rich(x, 2, 1, 5);
     }
 }

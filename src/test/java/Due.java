@@ -92,4 +92,46 @@ final class Due {
         write(x, text);
         same("fault() of " + text, x.fault(), place);
     }
+
+    void bought(SilenceMinute x, int t, int bid, int pays) {
+        same("buy(" + t + ", 0)", x.buy(t, 0), bid);
+        same("buy(" + t + ", 1)", x.buy(t, 1), pays);
+    }
+
+    void seated(SilenceMinute x, int apart, int together, int ways, int first) {
+        String sets = "seats(" + apart + ", " + together;
+        same(sets + ", 0)", x.seats(apart, together, 0), ways);
+        same(sets + ", 1)", x.seats(apart, together, 1), first);
+    }
+
+    void rich(SilenceMinute x, int compartment, int much, int traveller) {
+        same("richest(0)", x.richest(0), compartment);
+        same("richest(1)", x.richest(1), much);
+        same("richest(2)", x.richest(2), traveller);
+    }
+
+    void watched(SilenceMinute x, int where, int many) {
+        same("watch(0)", x.watch(0), where);
+        same("watch(1)", x.watch(1), many);
+    }
+
+    void sold(int first, int second, int winner, int price) {
+        SilenceMinute x = new SilenceMinute();
+        String worths = "auction(" + first + ", " + second;
+        same(worths + ", 0)", x.auction(first, second, 0), winner);
+        same(worths + ", 1)", x.auction(first, second, 1), price);
+    }
+
+    void mean(SilenceMinute x, int compartment, int t, long upper, long lower) {
+        String tenths = "coughs(" + compartment + ", " + t;
+        same(tenths + ", 0)", x.coughs(compartment, t, 0), upper);
+        same(tenths + ", 1)", x.coughs(compartment, t, 1), lower);
+    }
+
+    void years(SilenceMinute x, int seed, int m, int guard, int fines, int minute) {
+        String draws = "year(" + seed + ", " + m;
+        same(draws + ", 0)", x.year(seed, m, 0), guard);
+        same(draws + ", 1)", x.year(seed, m, 1), fines);
+        same(draws + ", 2)", x.year(seed, m, 2), minute);
+    }
 }

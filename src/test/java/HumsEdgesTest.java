@@ -191,21 +191,16 @@ public final class HumsEdgesTest {
         due.same("the eighth counts", x.hum(), 60);
     }
 
-    private static void watched(SilenceMinute x, int where, int many) {
-        due.same("watch(0)", x.watch(0), where);
-        due.same("watch(1)", x.watch(1), many);
-    }
-
     private static void watchNobody() {
         due.sentence("27 NONE: nobody may be");
         SilenceMinute x = new SilenceMinute();
-        watched(x, NONE, NONE);
+        due.watched(x, NONE, NONE);
         x.ride(0, 12, 20);
-        watched(x, NONE, NONE);
+        due.watched(x, NONE, NONE);
         x.ride(0, 11, 20);
-        watched(x, 0, 1);
+        due.watched(x, 0, 1);
         x.seen(11, 0);
-        watched(x, NONE, NONE);
+        due.watched(x, NONE, NONE);
     }
 
     private static void watchOne() {
@@ -213,21 +208,21 @@ public final class HumsEdgesTest {
         SilenceMinute x = new SilenceMinute();
         x.ride(4, 7, 8);
         x.seat(4, 2);
-        watched(x, 0, 1);
+        due.watched(x, 0, 1);
         x.line(8);
-        watched(x, 0, 1);
+        due.watched(x, 0, 1);
     }
 
     private static void watchAll() {
         due.sentence("27 fewest are left at the most: all, where nothing parts them");
         SilenceMinute x = Due.allRide(30);
-        watched(x, 0, 6);
+        due.watched(x, 0, 6);
         x.seat(0, 1);
-        watched(x, 0, 5);
+        due.watched(x, 0, 5);
         x.seat(1, 1);
-        watched(x, 0, 4);
+        due.watched(x, 0, 4);
         x.seat(2, 1);
-        watched(x, 0, 3);
+        due.watched(x, 0, 3);
     }
 
     private static void watchTheFirst() {
@@ -239,14 +234,14 @@ public final class HumsEdgesTest {
         x.ride(3, 4, 4);
         x.seat(2, 1);
         x.seat(3, 2);
-        watched(x, 30, 2);
+        due.watched(x, 30, 2);
         x.seat(0, 2);
         x.seat(1, 2);
-        watched(x, 32, 2);
+        due.watched(x, 32, 2);
         x.seat(1, 1);
-        watched(x, 41, 2);
+        due.watched(x, 41, 2);
         x.seat(2, 0);
-        watched(x, 42, 2);
+        due.watched(x, 42, 2);
     }
 
     private static void watchTheLastPlace() {
@@ -262,7 +257,7 @@ public final class HumsEdgesTest {
         x.seat(2, 2);
         x.seat(4, 1);
         x.ride(5, 28, 28);
-        watched(x, 292, 3);
+        due.watched(x, 292, 3);
     }
 
     private static void watchTheLineAlone() {
@@ -270,28 +265,22 @@ public final class HumsEdgesTest {
         SilenceMinute x = new SilenceMinute();
         x.ride(0, 0, 29);
         x.ride(1, 0, 11);
-        watched(x, 0, 2);
+        due.watched(x, 0, 2);
         x.line(13);
-        watched(x, 120, 1);
+        due.watched(x, 120, 1);
     }
 
     private static void watchWhateverMinuteItIs() {
         due.sentence("27 of those who may be, by SIGHTS, whatever minute it is");
         SilenceMinute x = Due.threeRide();
         due.does(x, "............", 12);
-        watched(x, 0, 2);
+        due.watched(x, 0, 2);
         x.seen(3, 2);
-        watched(x, 0, 1);
+        due.watched(x, 0, 1);
         x.seen(9, 2);
-        watched(x, 0, 1);
+        due.watched(x, 0, 1);
         x.seen(10, 2);
-        watched(x, NONE, NONE);
-    }
-
-    private static void sold(int first, int second, int winner, int price) {
-        SilenceMinute x = new SilenceMinute();
-        due.same("auction(" + first + ", " + second + ", 0)", x.auction(first, second, 0), winner);
-        due.same("auction(" + first + ", " + second + ", 1)", x.auction(first, second, 1), price);
+        due.watched(x, NONE, NONE);
     }
 
     /**
@@ -304,41 +293,36 @@ public final class HumsEdgesTest {
         for (int first = 0; first <= 20; first++) {
             for (int second = 0; second <= 20; second++) {
                 boolean begins = second <= 2 && first >= 2;
-                sold(first, second, begins ? 0 : NONE, begins ? 1 : NONE);
+                due.sold(first, second, begins ? 0 : NONE, begins ? 1 : NONE);
             }
         }
     }
 
     private static void auctionLeavesOffIfTheSame() {
         due.sentence("28 rather leaves off, if it is the same; NONE: he leaves off at once");
-        sold(1, 0, NONE, NONE);
-        sold(2, 0, 0, 1);
-        sold(2, 2, 0, 1);
-        sold(0, 0, NONE, NONE);
+        due.sold(1, 0, NONE, NONE);
+        due.sold(2, 0, 0, 1);
+        due.sold(2, 2, 0, 1);
+        due.sold(0, 0, NONE, NONE);
     }
 
     private static void auctionTwentyAtMost() {
         due.sentence("28 1 at first, 20 at most");
-        sold(20, 2, 0, 1);
-        sold(20, 3, NONE, NONE);
-        sold(20, 20, NONE, NONE);
-        sold(20, 0, 0, 1);
-        sold(0, 20, NONE, NONE);
-    }
-
-    private static void mean(SilenceMinute x, int compartment, int t, long upper, long lower) {
-        due.same("coughs(" + compartment + ", " + t + ", 0)", x.coughs(compartment, t, 0), upper);
-        due.same("coughs(" + compartment + ", " + t + ", 1)", x.coughs(compartment, t, 1), lower);
+        due.sold(20, 2, 0, 1);
+        due.sold(20, 3, NONE, NONE);
+        due.sold(20, 20, NONE, NONE);
+        due.sold(20, 0, 0, 1);
+        due.sold(0, 20, NONE, NONE);
     }
 
     private static void coughsOfNoTenthsAndTen() {
         due.sentence("29 coughs once with t tenths (0 to 10)");
         SilenceMinute x = Due.threeRide();
         due.does(x, "A05", 1);
-        mean(x, 0, 0, 0, 1);
-        mean(x, 0, 10, 16, 1);
-        mean(x, 0, 1, 8, 5);
-        mean(x, 0, 9, 72, 5);
+        due.mean(x, 0, 0, 0, 1);
+        due.mean(x, 0, 10, 16, 1);
+        due.mean(x, 0, 1, 8, 5);
+        due.mean(x, 0, 9, 72, 5);
     }
 
     private static void coughsInLowestTerms() {
@@ -352,32 +336,32 @@ public final class HumsEdgesTest {
         int[] upper = {0, 1, 1, 3, 2, 1, 3, 7, 4, 9, 1};
         int[] lower = {1, 10, 5, 10, 5, 2, 5, 10, 5, 10, 1};
         for (int t = 0; t <= 10; t++) {
-            mean(x, 0, t, upper[t], lower[t]);
+            due.mean(x, 0, t, upper[t], lower[t]);
         }
         x.fine(50);
-        mean(x, 0, 1, 5, 1);
+        due.mean(x, 0, 1, 5, 1);
         x.fine(25);
-        mean(x, 0, 1, 5, 2);
+        due.mean(x, 0, 1, 5, 2);
         x.fine(0);
-        mean(x, 0, 7, 0, 1);
+        due.mean(x, 0, 7, 0, 1);
     }
 
     private static void coughsWithAHolder() {
         due.sentence("29 in each minute, from now on, with a holder (as FORECAST)");
         SilenceMinute x = Due.allRide(3);
-        mean(x, 0, 10, 0, 1);
+        due.mean(x, 0, 10, 0, 1);
         due.does(x, "F01", 1);
-        mean(x, 0, 10, 30, 1);
+        due.mean(x, 0, 10, 30, 1);
         x.tunnel(1, true);
-        mean(x, 0, 10, 20, 1);
+        due.mean(x, 0, 10, 20, 1);
         x.purse(5, 1);
-        mean(x, 0, 10, 10, 1);
+        due.mean(x, 0, 10, 10, 1);
         due.does(x, ".", 1);
-        mean(x, 0, 10, 0, 1);
+        due.mean(x, 0, 10, 0, 1);
         x.purse(5, 9);
-        mean(x, 0, 10, 10, 1);
+        due.mean(x, 0, 10, 10, 1);
         due.does(x, "..", 2);
-        mean(x, 0, 10, 0, 1);
+        due.mean(x, 0, 10, 0, 1);
     }
 
     private static void coughsOfEachOtherOne() {
@@ -386,13 +370,13 @@ public final class HumsEdgesTest {
         x.fine(1);
         due.does(x, "A01", 1);
         for (int t = 5; t >= 1; t--) {
-            mean(x, 0, 10, t, 1);
+            due.mean(x, 0, 10, t, 1);
             x.seat(t, 2);
         }
-        mean(x, 0, 10, 0, 1);
-        mean(x, 1, 10, 0, 1);
+        due.mean(x, 0, 10, 0, 1);
+        due.mean(x, 1, 10, 0, 1);
         due.does(x, "B01", 1);
-        mean(x, 2, 10, 4, 1);
+        due.mean(x, 2, 10, 4, 1);
     }
 
     private static void coughsPursesBeingEnough() {
@@ -401,7 +385,7 @@ public final class HumsEdgesTest {
         x.fine(99);
         x.purse(0, 10);
         due.does(x, "A05", 1);
-        mean(x, 0, 10, 990, 1);
+        due.mean(x, 0, 10, 990, 1);
         due.same("nothing is done", x.told(13), 10);
     }
 
@@ -410,16 +394,10 @@ public final class HumsEdgesTest {
         SilenceMinute x = Due.allRide(30);
         x.fine(99);
         due.does(x, "A01", 1);
-        mean(x, 0, 10, 14850, 1);
-        mean(x, 0, 1, 1485, 1);
+        due.mean(x, 0, 10, 14850, 1);
+        due.mean(x, 0, 1, 1485, 1);
         x.tunnel(29, true);
-        mean(x, 0, 3, 8613, 2);
-    }
-
-    private static void years(SilenceMinute x, int seed, int m, int guard, int fines, int minute) {
-        due.same("year(" + seed + ", " + m + ", 0)", x.year(seed, m, 0), guard);
-        due.same("year(" + seed + ", " + m + ", 1)", x.year(seed, m, 1), fines);
-        due.same("year(" + seed + ", " + m + ", 2)", x.year(seed, m, 2), minute);
+        due.mean(x, 0, 3, 8613, 2);
     }
 
     private static void yearOfOneAct() {
@@ -427,41 +405,41 @@ public final class HumsEdgesTest {
         SilenceMinute x = Due.allRide(12);
         due.does(x, "B05", 1);
         // x becomes 224, 299, 374, 449, 524, 599, 674, 749 of the seeds 2 to 9: 0, 3, 6, 1, 4, 7, 2, 5 are left over.
-        years(x, 2, 1, 5, 0, 1);
-        years(x, 3, 1, 0, 0, 0);
-        years(x, 4, 1, 2, 2, 0);
-        years(x, 5, 1, 5, 0, 1);
-        years(x, 6, 1, 0, 0, 0);
-        years(x, 7, 1, 2, 2, 0);
-        years(x, 8, 1, 0, 0, 0);
-        years(x, 9, 1, 2, 2, 0);
+        due.years(x, 2, 1, 5, 0, 1);
+        due.years(x, 3, 1, 0, 0, 0);
+        due.years(x, 4, 1, 2, 2, 0);
+        due.years(x, 5, 1, 5, 0, 1);
+        due.years(x, 6, 1, 0, 0, 0);
+        due.years(x, 7, 1, 2, 2, 0);
+        due.years(x, 8, 1, 0, 0, 0);
+        due.years(x, 9, 1, 2, 2, 0);
     }
 
     private static void yearOfTheLastSeed() {
         due.sentence("30 a seed (0 to 9999); (75 x and 74) left over by 65537");
         SilenceMinute x = Due.allRide(12);
         // x becomes 74: 2 is left over, D bids 1; then 5624: 0 is left over, the minute passes.
-        years(x, 0, 1, 0, 0, 0);
-        years(x, 0, 2, 1, 0, 1);
+        due.years(x, 0, 1, 0, 0, 0);
+        due.years(x, 0, 2, 1, 0, 1);
         // x becomes 29092: A bids 14; 19253: A coughs; 2235: D bids 14; 36625: the minute passes.
-        years(x, 9999, 3, 0, 0, 0);
-        years(x, 9999, 4, 14, 0, 1);
+        due.years(x, 9999, 3, 0, 0, 0);
+        due.years(x, 9999, 4, 14, 0, 1);
         x.ride(0, -1, 0);
         x.purse(3, 13);
-        years(x, 9999, 4, 0, 0, 1);
+        due.years(x, 9999, 4, 0, 0, 1);
     }
 
     private static void yearOfMostActs() {
         due.sentence("30 m ACTS (1 to 99): 99");
         SilenceMinute x = Due.threeRide();
-        years(x, 77, 99, 65, 2, 12);
+        due.years(x, 77, 99, 65, 2, 12);
         SilenceMinute y = Due.allRide(30);
         for (int t = 0; t < 6; t++) {
             y.purse(t, 0);
         }
         // Of the first 98 and 99 draws of seed 1 so many pass the minute.
-        years(y, 1, 98, 0, 0, passes(1, 98));
-        years(y, 1, 99, 0, 0, passes(1, 99));
+        due.years(y, 1, 98, 0, 0, passes(1, 98));
+        due.years(y, 1, 99, 0, 0, passes(1, 99));
     }
 
     private static int passes(int seed, int m) {
@@ -478,12 +456,12 @@ public final class HumsEdgesTest {
         due.sentence("30 each if that can be");
         SilenceMinute x = Due.allRide(1);
         due.does(x, "B05", 1);
-        years(x, 2, 1, 5, 0, 1);
+        due.years(x, 2, 1, 5, 0, 1);
         due.does(x, ".", 1);
         // The minute can not pass, nobody rides who could cough.
-        years(x, 2, 1, 0, 0, 1);
-        years(x, 7, 1, 0, 0, 1);
-        years(x, 77, 99, 0, 0, 1);
+        due.years(x, 2, 1, 0, 0, 1);
+        due.years(x, 7, 1, 0, 0, 1);
+        due.years(x, 77, 99, 0, 0, 1);
     }
 
     private static void yearOfFines() {
@@ -492,11 +470,11 @@ public final class HumsEdgesTest {
         due.does(x, "B05.", 2);
         due.same("what he has till now", x.told(3), 5);
         // x becomes 599: 7 is left over, 74 by 6 is C, who coughs.
-        years(x, 7, 1, 2, 2, 1);
+        due.years(x, 7, 1, 2, 2, 1);
         x.fine(99);
-        years(x, 7, 1, 45, 45, 1);
+        due.years(x, 7, 1, 45, 45, 1);
         x.fine(0);
-        years(x, 7, 1, 0, 0, 1);
+        due.years(x, 7, 1, 0, 0, 1);
     }
 
     private static void yearNothingIsDone() {
@@ -544,16 +522,7 @@ public final class HumsEdgesTest {
         SilenceMinute x = new SilenceMinute();
         x.image(0);
         String first = AllTold.stateOf(x);
-        x.line(20);
-        x.tunnel(9, true);
-        for (int t = 0; t < 6; t++) {
-            x.ride(t, t + 1, t + 9);
-            x.seat(t, (t + 1) % 3);
-            x.purse(t, 100 + t);
-        }
-        x.fine(7);
-        x.seen(3, 3);
-        due.does(x, "..A03B04C05D06E07F08..", 10);
+        States.changeAll(x);
         String second = AllTold.stateOf(x);
         x.image(1);
         x.restore(0);
@@ -582,6 +551,17 @@ public final class HumsEdgesTest {
         due.same("sights", x.told(5), 8);
         due.same("each as it was", x.hum(), 30);
         due.same("full", x.seen(0, 0), -4);
+        SilenceMinute y = Due.threeRide();
+        y.seen(0, 2);
+        y.image(1);
+        y.forget();
+        y.seen(9, 0);
+        due.same("restore(1)", y.restore(1), 1);
+        due.same("its minute and its traveller", y.hum(), 1);
+        y.forget();
+        y.seen(9, 2);
+        due.same("restore(1) again", y.restore(1), 1);
+        due.same("its minute, of the same traveller", y.hum(), 1);
     }
 
     private static void restoreAgain() {

@@ -59,133 +59,111 @@ public final class HumsTest {
         due.same("26 the line reaches 12", x.hum(), 16);
     }
 
-    private static void watched(SilenceMinute x, int where, int many) {
-        due.same("27 watch(0)", x.watch(0), where);
-        due.same("27 watch(1)", x.watch(1), many);
-    }
-
     private static void promise27Watch() {
         SilenceMinute x = Due.threeRide();
-        watched(x, 0, 2);
+        due.watched(x, 0, 2);
         x.seen(0, 0);
-        watched(x, 0, 1);
+        due.watched(x, 0, 1);
         x.seen(0, 2);
-        watched(x, -6, -6);
+        due.watched(x, -6, -6);
         x.forget();
         for (int t = 0; t < 4; t++) {
             x.ride(t, 0, 11);
         }
-        watched(x, 0, 4);
+        due.watched(x, 0, 4);
         x.seat(2, 2);
         x.seat(3, 2);
-        watched(x, 0, 2);
+        due.watched(x, 0, 2);
         x.ride(1, 7, 8);
         x.seat(1, 2);
         x.seat(3, 0);
-        watched(x, 0, 2);
+        due.watched(x, 0, 2);
         x.seat(3, 1);
-        watched(x, 72, 2);
+        due.watched(x, 72, 2);
         due.does(x, "..........", 10);
-        watched(x, 72, 2);
+        due.watched(x, 72, 2);
         x.line(7);
-        watched(x, 0, 2);
+        due.watched(x, 0, 2);
         x.ride(2, -1, 0);
         x.ride(3, -1, 0);
         x.ride(0, 6, 29);
-        watched(x, 0, 1);
+        due.watched(x, 0, 1);
         for (int t = 0; t < 6; t++) {
             x.ride(t, 0, 6);
             x.seat(t, 1);
         }
-        watched(x, 0, 6);
-    }
-
-    private static void sold(int first, int second, int winner, int price) {
-        SilenceMinute x = new SilenceMinute();
-        due.same("28 auction(" + first + ", " + second + ", 0)", x.auction(first, second, 0), winner);
-        due.same("28 auction(" + first + ", " + second + ", 1)", x.auction(first, second, 1), price);
+        due.watched(x, 0, 6);
     }
 
     private static void promise28Auction() {
-        sold(0, 0, -6, -6);
-        sold(1, 0, -6, -6);
-        sold(2, 0, 0, 1);
-        sold(2, 1, 0, 1);
-        sold(2, 2, 0, 1);
-        sold(3, 2, 0, 1);
-        sold(3, 3, -6, -6);
-        sold(20, 0, 0, 1);
-        sold(20, 1, 0, 1);
-        sold(5, 5, -6, -6);
-        sold(0, 20, -6, -6);
-        sold(20, 20, -6, -6);
-        sold(20, 2, 0, 1);
-        sold(20, 3, -6, -6);
+        due.sold(0, 0, -6, -6);
+        due.sold(1, 0, -6, -6);
+        due.sold(2, 0, 0, 1);
+        due.sold(2, 1, 0, 1);
+        due.sold(2, 2, 0, 1);
+        due.sold(3, 2, 0, 1);
+        due.sold(3, 3, -6, -6);
+        due.sold(20, 0, 0, 1);
+        due.sold(20, 1, 0, 1);
+        due.sold(5, 5, -6, -6);
+        due.sold(0, 20, -6, -6);
+        due.sold(20, 20, -6, -6);
+        due.sold(20, 2, 0, 1);
+        due.sold(20, 3, -6, -6);
         SilenceMinute x = Due.threeRide();
-    }
-
-    private static void mean(SilenceMinute x, int compartment, int t, long upper, long lower) {
-        due.same("29 upper by " + t, x.coughs(compartment, t, 0), upper);
-        due.same("29 lower by " + t, x.coughs(compartment, t, 1), lower);
     }
 
     private static void promise29Coughs() {
         SilenceMinute x = Due.threeRide();
-        mean(x, 0, 5, 0, 1);
+        due.mean(x, 0, 5, 0, 1);
         due.does(x, "A05", 1);
-        mean(x, 0, 0, 0, 1);
-        mean(x, 0, 1, 8, 5);
-        mean(x, 0, 5, 8, 1);
-        mean(x, 0, 10, 16, 1);
-        mean(x, 1, 10, 0, 1);
+        due.mean(x, 0, 0, 0, 1);
+        due.mean(x, 0, 1, 8, 5);
+        due.mean(x, 0, 5, 8, 1);
+        due.mean(x, 0, 10, 16, 1);
+        due.mean(x, 1, 10, 0, 1);
         x.fine(99);
-        mean(x, 0, 1, 396, 5);
-        mean(x, 0, 10, 792, 1);
+        due.mean(x, 0, 1, 396, 5);
+        due.mean(x, 0, 10, 792, 1);
         x.fine(5);
-        mean(x, 0, 3, 12, 1);
+        due.mean(x, 0, 3, 12, 1);
         due.does(x, "...", 3);
-        mean(x, 0, 1, 2, 1);
+        due.mean(x, 0, 1, 2, 1);
         x.fine(1);
-        mean(x, 0, 7, 14, 5);
+        due.mean(x, 0, 7, 14, 5);
         x.ride(1, -1, 0);
-        mean(x, 0, 3, 3, 5);
+        due.mean(x, 0, 3, 3, 5);
         due.does(x, "..", 2);
-        mean(x, 0, 3, 3, 10);
-        mean(x, 0, 5, 1, 2);
-        mean(x, 0, 8, 4, 5);
+        due.mean(x, 0, 3, 3, 10);
+        due.mean(x, 0, 5, 1, 2);
+        due.mean(x, 0, 8, 4, 5);
         due.does(x, ".A00C01", 3);
-        mean(x, 0, 10, 0, 1);
-    }
-
-    private static void years(SilenceMinute x, int seed, int m, int guard, int fines, int minute) {
-        due.same("30 guard", x.year(seed, m, 0), guard);
-        due.same("30 fines", x.year(seed, m, 1), fines);
-        due.same("30 minute", x.year(seed, m, 2), minute);
+        due.mean(x, 0, 10, 0, 1);
     }
 
     private static void promise30Year() {
         SilenceMinute x = Due.threeRide();
-        years(x, 0, 1, 0, 0, 0);
-        years(x, 77, 99, 65, 2, 12);
-        years(x, 5, 40, 31, 0, 6);
+        due.years(x, 0, 1, 0, 0, 0);
+        due.years(x, 77, 99, 65, 2, 12);
+        due.years(x, 5, 40, 31, 0, 6);
         due.does(x, "A05.", 2);
         // x becomes 75 times 2 and 74, 224: by 8 nothing is left over.
-        years(x, 2, 1, 5, 0, 2);
+        due.years(x, 2, 1, 5, 0, 2);
         // x becomes 75 times 3 and 74, 299: 3 is left over, B bids 4.
-        years(x, 3, 1, 0, 0, 1);
+        due.years(x, 3, 1, 0, 0, 1);
         // x becomes 75 times 53 and 74, 4049: 1 is left over.
-        years(x, 53, 1, 5, 0, 2);
+        due.years(x, 53, 1, 5, 0, 2);
         // x becomes 75 times 57 and 74, 4349: 5 is left over, 543 by 6 is D, who does not ride.
-        years(x, 57, 1, 0, 0, 1);
+        due.years(x, 57, 1, 0, 0, 1);
         // x becomes 75 times 1 and 74, 149: 5 is left over, 18 by 6 is A, who holds it himself.
-        years(x, 1, 1, 0, 0, 1);
+        due.years(x, 1, 1, 0, 0, 1);
         // x becomes 75 times 7 and 74, 599: 7 is left over, 74 by 6 is C, who coughs.
-        years(x, 7, 1, 2, 2, 1);
+        due.years(x, 7, 1, 2, 2, 1);
         // x becomes 75 times 18 and 74, 1424, the minute passes; then 41337: 1 is left over, it passes again.
-        years(x, 18, 2, 10, 0, 3);
+        due.years(x, 18, 2, 10, 0, 3);
         // x becomes 75 times 14 and 74, 1124: 4 is left over, 140 by 6 is C, who bids 17;
         // then 18837: 5 is left over, 2354 by 6 is C, who holds it now and coughs.
-        years(x, 14, 2, 0, 0, 1);
+        due.years(x, 14, 2, 0, 0, 1);
         due.same("30 nothing is done", x.told(3), 5);
         due.same("30 it is still minute 1", x.told(2), 1);
     }
@@ -200,26 +178,12 @@ public final class HumsTest {
         due.truth("31 nothing else is changed", before.equals(AllTold.stateOf(x)));
     }
 
-    private static void changeAll(SilenceMinute x) {
-        x.line(20);
-        x.tunnel(9, true);
-        for (int t = 0; t < 6; t++) {
-            x.ride(t, t + 1, t + 9);
-            x.seat(t, (t + 1) % 3);
-            x.purse(t, 100 + t);
-        }
-        x.fine(7);
-        x.seen(3, 3);
-        Due.write(x, "..A03B04C05D06E07F08..");
-        x.done();
-    }
-
     private static void promise32Restore() {
         SilenceMinute x = Due.threeRide();
         x.seen(1, 0);
         String first = AllTold.stateOf(x);
         x.image(0);
-        changeAll(x);
+        States.changeAll(x);
         String second = AllTold.stateOf(x);
         x.image(1);
         due.same("32 restore(0)", x.restore(0), 1);
@@ -237,7 +201,7 @@ public final class HumsTest {
 
     private static void promise33Told() {
         SilenceMinute x = new SilenceMinute();
-        changeAll(x);
+        States.changeAll(x);
         Due.write(x, "A0");
         int[] want = {2, 20, 4, 19, 7, 1, 1 << 9};
         for (int what = 0; what < want.length; what++) {

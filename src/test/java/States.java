@@ -59,4 +59,19 @@ final class States {
         Due.write(x, "A11".repeat(19) + ".B4");
         return x;
     }
+
+    /** Tells everything of an object anew: its line, its travellers, its fine, a sight, and rides that are done. */
+    static void changeAll(SilenceMinute x) {
+        x.line(20);
+        x.tunnel(9, true);
+        for (int t = 0; t < 6; t++) {
+            x.ride(t, t + 1, t + 9);
+            x.seat(t, (t + 1) % 3);
+            x.purse(t, 100 + t);
+        }
+        x.fine(7);
+        x.seen(3, 3);
+        Due.write(x, "..A03B04C05D06E07F08..");
+        x.done();
+    }
 }
