@@ -26,7 +26,9 @@ public final class FaceTest {
         methods();
         fields();
         for (Class<?> inside : SilenceMinute.class.getDeclaredClasses()) {
-            due.truth(inside + " is static", Modifier.isStatic(inside.getModifiers()));
+            int how = inside.getModifiers();
+            due.truth(inside + " is static", Modifier.isStatic(how));
+            due.truth(inside + " is private or package-visible", !Modifier.isPublic(how) && !Modifier.isProtected(how));
         }
         due.end();
     }
@@ -48,6 +50,7 @@ public final class FaceTest {
             if (Modifier.isPublic(m.getModifiers())) {
                 String parts = Arrays.toString(m.getParameterTypes()).replaceAll("[\\[\\] ]", "");
                 seen.add(m.getName() + "(" + parts + ")" + m.getReturnType());
+                due.truth(m + " belongs to an object", m.getModifiers() == Modifier.PUBLIC);
                 names.add(m.getName());
             }
         }
@@ -64,6 +67,9 @@ public final class FaceTest {
         for (Field f : SilenceMinute.class.getDeclaredFields()) {
             if (!Modifier.isPrivate(f.getModifiers())) {
                 seen.add(f.getName());
+                due.truth(f + " is a public constant",
+                    f.getModifiers() == (Modifier.PUBLIC | Modifier.STATIC | Modifier.FINAL));
+                due.truth(f + " has its type", f.getType() == (f.getName().equals("LOST") ? long.class : int.class));
             }
         }
         due.truth("the public constants: " + seen, seen.equals(new TreeSet<>(

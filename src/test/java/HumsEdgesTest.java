@@ -15,6 +15,7 @@ public final class HumsEdgesTest {
         humNobodyIfHeDidNotRide();
         humTheSameAllTimes();
         humOfEightSights();
+        humInATunnel();
         watchNobody();
         watchOne();
         watchAll();
@@ -35,6 +36,7 @@ public final class HumsEdgesTest {
         yearOfTheLastSeed();
         yearOfMostActs();
         yearAtTheEnd();
+        yearFromAllAsItIs();
         yearOfFines();
         yearNothingIsDone();
         imagesOfBothNumbers();
@@ -189,6 +191,17 @@ public final class HumsEdgesTest {
         due.same("seven", x.hum(), 62);
         x.seen(7, 1);
         due.same("the eighth counts", x.hum(), 60);
+    }
+
+    private static void humInATunnel() {
+        due.sentence("26 in a minute (0 to 29): a TUNNEL too, and whoever held the silence then");
+        SilenceMinute x = Due.threeRide();
+        x.seen(4, 2);
+        due.same("minute 4 is a tunnel", x.hum(), 3);
+        x.tunnel(4, false);
+        due.same("it is none any more", x.hum(), 3);
+        due.does(x, "A05", 1);
+        due.same("A would hold it", x.hum(), 3);
     }
 
     private static void watchNobody() {
@@ -462,6 +475,30 @@ public final class HumsEdgesTest {
         due.years(x, 2, 1, 0, 0, 1);
         due.years(x, 7, 1, 0, 0, 1);
         due.years(x, 77, 99, 0, 0, 1);
+    }
+
+    private static void yearFromAllAsItIs() {
+        due.sentence("30 from all as it is: the minute, TUNNELS, COMPARTMENTS, BIDS, PURSES");
+        SilenceMinute x = Due.allRide(12);
+        x.tunnel(1, true);
+        due.does(x, "B05.", 2);
+        // By seed 2 the minute passes, by seed 7 C coughs: in a tunnel, where nobody holds the silence.
+        due.years(x, 2, 1, 0, 0, 2);
+        due.years(x, 7, 1, 0, 0, 1);
+        x.tunnel(1, false);
+        due.years(x, 2, 1, 5, 0, 2);
+        due.years(x, 7, 1, 2, 2, 1);
+        x.seat(2, 1);
+        due.years(x, 7, 1, 0, 0, 1);
+        x.seat(1, 1);
+        due.years(x, 7, 1, 2, 2, 1);
+        x.purse(1, 4);
+        due.years(x, 2, 1, 0, 0, 2);
+        due.years(x, 7, 1, 0, 0, 1);
+        due.does(x, "B04", 1);
+        due.years(x, 2, 1, 4, 0, 2);
+        Due.write(x, "....");
+        due.years(x, 2, 1, 4, 0, 2);
     }
 
     private static void yearOfFines() {

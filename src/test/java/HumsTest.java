@@ -110,7 +110,6 @@ public final class HumsTest {
         due.sold(20, 20, -6, -6);
         due.sold(20, 2, 0, 1);
         due.sold(20, 3, -6, -6);
-        SilenceMinute x = Due.threeRide();
     }
 
     private static void promise29Coughs() {
